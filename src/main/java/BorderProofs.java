@@ -1025,19 +1025,23 @@ public final class BorderProofs {
                 first = (first + 1) % MOST_DOINGS;
                 count--;
             }
-            before[(first + count) % MOST_DOINGS].become(map);
+            pairsAt(count).become(map);
             count++;
         }
 
         void takeBack(Pairs map) {
             if (count > 0) {
                 count--;
-                map.become(before[(first + count) % MOST_DOINGS]);
+                map.become(pairsAt(count));
             }
         }
 
         void forgetAll() {
             count = 0;
+        }
+
+        private Pairs pairsAt(int later) {
+            return before[Math.floorMod(first + later, MOST_DOINGS)];
         }
     }
 

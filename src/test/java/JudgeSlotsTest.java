@@ -87,6 +87,8 @@ public final class JudgeSlotsTest {
         for (int n : new int[] {0, 4, -1, Integer.MIN_VALUE, Integer.MAX_VALUE}) {
             dueJudged(x, n, 34001, BAD);
         }
+        dueJudged(x, 1, 0, 0);
+        dueJudged(x, 3, 0, 0);
         dueJudged(x, 1, -1, BAD);
         dueJudged(x, 3, -1, BAD);
         dueJudged(x, 1, Long.MIN_VALUE, BAD);
@@ -187,13 +189,20 @@ public final class JudgeSlotsTest {
         // 30 has 29 and 45 then: 29 and 45 are alike, at other places than before
         due("29 and 45 are", x.differ(0, 2), 2);
         due("three nodes", x.differ(0, 3), 3);
+        x.keep(1);
+        x.judge(1, 50000);
+        due("what was judged is not what was kept", x.differ(1, 3), 4);
         BorderProofs none = new BorderProofs();
         none.keep(0);
         due("none in both: otherwise", none.differ(0, 0), 0);
         due("none in both: passed over", none.differ(0, 2), 0);
         due("none in both: nodes", none.differ(0, 3), 0);
-        none.put(3, 3);
+        none.put(0, 3);
         due("one in one alone", none.differ(0, 0), 1);
+        due("the least", none.differ(0, 1), 0);
         due("is not passed over", none.differ(0, 2), 0);
+        none.keep(0);
+        due("in both it is", none.differ(0, 2), 1);
+        due("one node", none.differ(0, 3), 1);
     }
 }

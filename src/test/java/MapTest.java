@@ -207,6 +207,9 @@ public final class MapTest {
         due("about(1)", x.about(1), digest(40, 1, left, right));
         due("about(2)", x.about(2), 3);
         due("about(3)", x.about(3), 15);
+        x.put(0, 50);
+        due("about(3) with key 0", x.about(3), 65);
+        x.undo();
         due("about(4)", x.about(4), 5);
         x.send(0, 99);
         due("about(5)", x.about(5), 11);

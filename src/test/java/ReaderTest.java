@@ -20,6 +20,7 @@ public final class ReaderTest {
         readDigest();
         readDeep();
         learnt();
+        learntOfTheLeast();
         found();
         step();
         stepRefused();
@@ -301,6 +302,20 @@ public final class ReaderTest {
         due("stale", x.learnt(45, 45, 0), LATE);
     }
 
+    private static void learntOfTheLeast() {
+        BorderProofs x = new BorderProofs();
+        x.put(0, 5);
+        x.put(99, 6);
+        x.trust();
+        x.send(0, 99);
+        due("keys", x.learnt(0, 0, 0), 1);
+        due("values", x.learnt(0, 0, 1), 5);
+        due("less", x.learnt(1, 99, 2), 0);
+        due("more", x.learnt(0, 98, 3), 99);
+        due("found(0, 0, 0)", x.found(0, 0, 0), 5);
+        due("found(99, 99, 0)", x.found(99, 99, 0), 9906);
+    }
+
     private static void found() {
         BorderProofs x = MapTest.five();
         x.trust();
@@ -363,6 +378,8 @@ public final class ReaderTest {
         due("39 is hidden", x.step(40, 3), LATE);
         due("follow likewise", x.follow(40, 3), LATE);
         due("BAD is told before LATE", x.step(40, 100), BAD);
+        x.send(39, 40);
+        due("41 is hidden", x.step(40, 3), LATE);
         x.send(41, 41);
         due("42 lies beside, and is shown", x.step(41, 0) > 0 ? 1 : 0, 1);
         x.believe(1);
