@@ -2,8 +2,11 @@ import java.util.Random;
 
 /** Many runs of calls by seeds that are always the same: the class answers as the model does. */
 public final class RandomRunsTest {
-    private static final int RUNS = 1500;
-    private static final int CALLS = 400;
+    private static final int RUNS = 3000;
+    /** "An object is used for at most 512 calls": what later ones answer is free. */
+    private static final int MOST_CALLS = 512;
+    /** The calls that are left then are enough for all that is asked at the end. */
+    private static final int RUN_CALLS = 320;
     private static final int NONE = -9;
 
     private final Check check;
@@ -15,6 +18,7 @@ public final class RandomRunsTest {
     private final int spread;
     private int a;
     private int b;
+    private int calls = 0;
 
     private RandomRunsTest(Check check, int seed) {
         this.check = check;
@@ -32,14 +36,17 @@ public final class RandomRunsTest {
     }
 
     private void go() {
-        for (int call = 0; call < CALLS; call++) {
+        while (calls < RUN_CALLS) {
             one();
         }
         whole();
     }
 
     private void due(String call, int got, int want) {
-        check.due(run + call, got, want);
+        calls++;
+        if (calls <= MOST_CALLS) {
+            check.due(run + call, got, want);
+        }
     }
 
     private boolean rarely() {
@@ -285,16 +292,17 @@ public final class RandomRunsTest {
         }
     }
 
-    /** All that can be asked without a change. */
+    /** The whole of the map, of each of its nodes one thing, of the reader and the doings. */
     private void whole() {
         for (int what = 0; what < 8; what++) {
             due("about(" + what + ")", real.about(what), model.about(what));
-            for (int key = 0; key < 100; key++) {
-                due("node(" + key + ", " + what + ")", real.node(key, what), model.node(key, what));
-            }
         }
         for (int key = 0; key < 100; key++) {
             due("get(" + key + ")", real.get(key), model.get(key));
+        }
+        for (int key : model.map.keySet()) {
+            int what = random.nextInt(8);
+            due("node(" + key + ", " + what + ")", real.node(key, what), model.node(key, what));
         }
         for (int place = 0; place < 8; place++) {
             due("former(" + place + ")", real.former(place), model.former(place));
