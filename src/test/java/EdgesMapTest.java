@@ -224,9 +224,13 @@ public final class EdgesMapTest {
     private static void scatterTakesOneToTwenty() {
         due("scatter(1, 5)", new BorderProofs().scatter(1, 5), 1);
         due("scatter(20, 5)", new BorderProofs().scatter(20, 5), 19);
+        BorderProofs one = new BorderProofs();
+        one.scatter(1, 5);
+        int pair = Words.scattered(1, 5)[0];
+        due("its tree", one.about(1), Words.digest(pair / 100, pair % 100, 0, 0));
         for (int n : new int[] {0, 21, -1, Integer.MIN_VALUE, Integer.MAX_VALUE}) {
-            for (long x : new long[] {0, 1, Long.MIN_VALUE, Long.MAX_VALUE}) {
-                due("scatter(" + n + ", " + x + ")", new BorderProofs().scatter(n, x), BAD);
+            for (long seed : new long[] {0, 1, Long.MIN_VALUE, Long.MAX_VALUE}) {
+                due("scatter(" + n + ", " + seed + ")", new BorderProofs().scatter(n, seed), BAD);
             }
         }
     }
