@@ -454,7 +454,7 @@ public final class ReaderTest {
         BorderProofs x = new BorderProofs();
         x.scatter(9, 5);
         x.trust();
-        for (int i = 0; i < 90; i++) {
+        for (int i = 0; i < 80; i++) {
             int key = i * 37 % 31;
             x.send(Math.max(0, key - 1), Math.min(99, key + 1));
             boolean held = x.get(key) != NONE;
