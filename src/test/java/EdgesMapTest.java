@@ -46,6 +46,7 @@ public final class EdgesMapTest {
         ranksDoNotWrap();
         noRanksAreLike();
         digestsDoNotWrap();
+        leastAndGreatestDigest();
         treeIsOneInWhateverRow();
         the512thCall();
         CHECK.finish();
@@ -548,6 +549,23 @@ public final class EdgesMapTest {
         }
         for (int first = 0; first <= 60; first++) {
             due("ROOT of 40 keys from " + first, Words.forty(first).about(1), Words.digestOfAll(first, first + 39, 1));
+        }
+    }
+
+    /** "1 and what comes of .., by 2147483647": the least is 1, the greatest 2147483647. */
+    private static void leastAndGreatestDigest() {
+        int[][] values = {Words.LEAST_DIGEST, Words.LEAST_DIGEST_TOO, Words.GREATEST_DIGEST};
+        int[] digests = {1, 1, Integer.MAX_VALUE};
+        for (int i = 0; i < values.length; i++) {
+            due("as Words has it", Words.chainDigest(values[i]), digests[i]);
+            BorderProofs x = new BorderProofs();
+            Words.putChain(x, values[i]);
+            due("ROOT", x.about(1), digests[i]);
+            due("node(30, 5)", x.node(30, 5), digests[i]);
+            // 40 comes above all: what was the root hangs to its left
+            x.put(40, 1);
+            due("node(30, 5) below 40", x.node(30, 5), digests[i]);
+            due("ROOT above it", x.about(1), Words.digest(40, 1, digests[i], 0));
         }
     }
 

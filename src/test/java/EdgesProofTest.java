@@ -22,6 +22,7 @@ public final class EdgesProofTest {
         nodeOrDigestByItsBorders();
         oneNumberInBorders();
         shownThoughNoKeyIsInTheRange();
+        leastAndGreatestDigestItem();
         leastAndGreatestNodeItem();
         placesOfItems();
         lengthsTakesZeroAndOne();
@@ -150,6 +151,23 @@ public final class EdgesProofTest {
         BorderProofs y = Words.with(2, 0);
         dueItems(y, 1, 1, Words.nodeItem(2, 1), Words.nodeItem(0, 1), 0, 0, 0);
         dueItems(y, 2, 99, Words.nodeItem(2, 1), Words.digest(0, 1, 0, 0), 0);
+    }
+
+    /** "a DIGEST, 1 or more": a tree that has the least one, or the greatest, is hidden behind it. */
+    private static void leastAndGreatestDigestItem() {
+        int[][] values = {Words.LEAST_DIGEST, Words.GREATEST_DIGEST};
+        int[] digests = {1, Integer.MAX_VALUE};
+        for (int i = 0; i < values.length; i++) {
+            BorderProofs x = new BorderProofs();
+            Words.putChain(x, values[i]);
+            dueItems(x, 0, 99, Words.chainItems(values[i]));
+            x.put(40, 1);
+            dueItems(x, 40, 40, Words.nodeItem(40, 1), digests[i], 0);
+            x.trust();
+            x.send(40, 99);
+            due("it is FINE", x.read(40, 99), 0);
+            due("it is hidden", x.read(39, 40), 5);
+        }
     }
 
     // ---- promise 11

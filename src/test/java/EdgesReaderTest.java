@@ -45,6 +45,7 @@ public final class EdgesReaderTest {
         readStaleUpToTheEighth();
         readFineThoughFormer();
         readOfNoTree();
+        readIsByTheDigestAlone();
         learntTakesZeroToFour();
         learntAtTheEnds();
         learntNeighbours();
@@ -526,6 +527,21 @@ public final class EdgesReaderTest {
         }
         x.believe(9);
         due("0 is FORMER no more", x.read(0, 99), ROOT);
+    }
+
+    /** "that unlike TREES have unlike ones is not said": of two trees with one digest either is believed. */
+    private static void readIsByTheDigestAlone() {
+        BorderProofs x = new BorderProofs();
+        Words.putChain(x, Words.LEAST_DIGEST);
+        x.trust();
+        for (int item : Words.chainItems(Words.LEAST_DIGEST_TOO)) {
+            x.tell(item);
+        }
+        due("read(0, 99)", x.read(0, 99), FINE);
+        due("the value that it is told, not that of the map", x.found(30, 30, 0), 3051);
+        due("the map's", x.get(30), 56);
+        x.believe(5);
+        due("it was trusted before", x.read(0, 99), STALE);
     }
 
     // ---- promises 20 and 21: what is learnt

@@ -42,6 +42,7 @@ public final class EdgesSlotsTest {
         passedOverInAnotherPlace();
         passedOverOfKeysInBoth();
         passedOverByEachSlot();
+        passedOverByTheDigestAlone();
         CHECK.finish();
     }
 
@@ -541,5 +542,18 @@ public final class EdgesSlotsTest {
         dueDiffers("45 is", x, 1, 1, 45, 1, 1);
         due("the other slot's nodes first", x.differ(0, 3), 0);
         due("then this one's", x.differ(1, 3), 1);
+    }
+
+    /** "the same DIGEST in both TREES": also where keys are otherwise; all values but that of 23 are. */
+    private static void passedOverByTheDigestAlone() {
+        BorderProofs x = new BorderProofs();
+        Words.putChain(x, Words.LEAST_DIGEST);
+        x.keep(0);
+        Words.putChain(x, Words.LEAST_DIGEST_TOO);
+        dueDiffers("unlike trees of one digest", x, 0, 5, 19, 1, 6);
+        x.put(40, 1);
+        dueDiffers("below another one", x, 0, 6, 19, 1, 6);
+        x.put(23, 1);
+        dueDiffers("unlike digests", x, 0, 7, 19, 0, 0);
     }
 }

@@ -8,6 +8,14 @@ final class Words {
     private static final BigInteger TIMES = new BigInteger("6364136223846793005");
     private static final BigInteger AND = new BigInteger("1442695040888963407");
 
+    /** Keys of which each is above all that are less: a tree of them goes down to the left alone. */
+    static final int[] CHAIN = {30, 29, 24, 23, 21, 19};
+    /** Values by which the tree of CHAIN has the least digest that there is, 1; and others by which it has it, too. */
+    static final int[] LEAST_DIGEST = {56, 45, 50, 0, 33, 9};
+    static final int[] LEAST_DIGEST_TOO = {51, 3, 10, 0, 56, 71};
+    /** Values by which it has the greatest one, 2147483647. */
+    static final int[] GREATEST_DIGEST = {21, 64, 68, 0, 32, 64};
+
     private Words() {
     }
 
@@ -87,6 +95,29 @@ final class Words {
             x.put(key, 1);
         }
         return x;
+    }
+
+    static void putChain(BorderProofs x, int[] values) {
+        for (int place = 0; place < CHAIN.length; place++) {
+            x.put(CHAIN[place], values[place]);
+        }
+    }
+
+    /** The items of all of CHAIN: each node with what is left of it, then a 0 for what is right of each. */
+    static int[] chainItems(int[] values) {
+        int[] items = new int[2 * CHAIN.length + 1];
+        for (int place = 0; place < CHAIN.length; place++) {
+            items[place] = nodeItem(CHAIN[place], values[place]);
+        }
+        return items;
+    }
+
+    static int chainDigest(int[] values) {
+        int digest = 0;
+        for (int place = CHAIN.length - 1; place >= 0; place--) {
+            digest = digest(CHAIN[place], values[place], digest, 0);
+        }
+        return digest;
     }
 
     /** A new object with 40 keys from one on, each with the value 1. */
