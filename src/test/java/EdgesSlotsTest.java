@@ -547,7 +547,9 @@ public final class EdgesSlotsTest {
     /** "the same DIGEST in both TREES": also where keys are otherwise; all values but that of 23 are. */
     private static void passedOverByTheDigestAlone() {
         BorderProofs x = new BorderProofs();
+        x.keep(1);
         Words.putChain(x, Words.LEAST_DIGEST);
+        dueDiffers("a digest of 1 is not that of no tree", x, 1, 6, 19, 0, 0);
         x.keep(0);
         Words.putChain(x, Words.LEAST_DIGEST_TOO);
         dueDiffers("unlike trees of one digest", x, 0, 5, 19, 1, 6);
